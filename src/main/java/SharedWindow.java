@@ -598,10 +598,12 @@ public final class SharedWindow {
         /** Reckons all views at once, as every DAY asks for them again and again. */
         private void lookAround() {
             for (int house = 0; house < HOUSES; house++) {
-                int before = hasHouse(house) ? thingsBefore(house) : 0;
-                wholeViews[house] = before;
-                for (int turn = 0; turn < TURNS; turn++) {
-                    views[house * TURNS + turn] = before == 0 ? 0 : before & thingsThere(turn);
+                wholeViews[house] = hasHouse(house) ? thingsBefore(house) : 0;
+            }
+            for (int turn = 0; turn < TURNS; turn++) {
+                int there = thingsThere(turn);
+                for (int house = 0; house < HOUSES; house++) {
+                    views[house * TURNS + turn] = wholeViews[house] & there;
                 }
             }
         }
@@ -1105,6 +1107,7 @@ public final class SharedWindow {
         private static final int JUMP_IF = 12;
         private static final int JUMP_UNLESS = 13;
         private static final int LETTERS = 9;
+        private static final String LETTER_SIGNS = "hgsdnbktw";
 
         private final int[] kinds = new int[MOST_RULES];
         private final int[] worths = new int[MOST_RULES];
@@ -1389,13 +1392,12 @@ public final class SharedWindow {
         }
 
         private static int letterOf(int sign) {
-            return sign > 0 ? State.LETTER_SIGNS.indexOf((char) sign) : NONE;
+            return sign > 0 ? Law.LETTER_SIGNS.indexOf((char) sign) : NONE;
         }
     }
 
     /** What KEPT keeps and UNDONE brings back: THE WINDOW, BRINGS, CRACKS, JOY, THE DAY and X. */
     private static final class State {
-        private static final String LETTER_SIGNS = "hgsdnbktw";
         private static final int MOST_X = 65535;
         private static final int MOST_CRACKS = 9999;
         private static final int MOST_JOY = 99999;
@@ -1490,7 +1492,7 @@ public final class SharedWindow {
             }
         }
 
-        /** The letters by their places in LETTER_SIGNS. */
+        /** The letters by their places in Law.LETTER_SIGNS. */
         private void tellLaw(Law rules, int house, int turn, int seen) {
             rules.setLetter(0, house);
             rules.setLetter(1, window == NOBODY ? HOUSES : window);
@@ -1514,6 +1516,7 @@ public final class SharedWindow {
         private static final int UNREACHED = 1000000;
         private final int[] wisher = new int[MOST];
         private final int[] wished = new int[MOST];
+        private final int[] gains = new int[MOST];
         private final int[] reached = new int[SETS * MOST];
         private int number = 0;
 
@@ -1547,9 +1550,12 @@ public final class SharedWindow {
 
         /** From the greatest set down, as a set leads to greater ones and a TURN is one HOUSE's only. */
         private void tryTurn(Terrace street, int turn) {
+            for (int wish = 0; wish < number; wish++) {
+                gains[wish] = granted(street.view(wisher[wish], turn), wisher[wish]);
+            }
             for (int set = (1 << number) - 1; set >= 0; set--) {
                 for (int wish = 0; wish < number; wish++) {
-                    int more = set | granted(street, turn, wisher[wish]);
+                    int more = set | gains[wish];
                     if (more != set) {
                         int cell = more * MOST + wish;
                         reached[cell] = Math.min(reached[cell], costTo(set, wisher[wish]));
@@ -1558,10 +1564,10 @@ public final class SharedWindow {
             }
         }
 
-        private int granted(Terrace street, int turn, int house) {
+        private int granted(int seen, int house) {
             int set = 0;
             for (int wish = 0; wish < number; wish++) {
-                if (wisher[wish] == house && (street.view(house, turn) >> wished[wish] & 1) == 1) {
+                if (wisher[wish] == house && (seen >> wished[wish] & 1) == 1) {
                     set |= 1 << wish;
                 }
             }

@@ -133,7 +133,7 @@ public final class GamesTest {
     }
 
     /** By who is left out: the ways of so many houses at most, with and without each of them. */
-    private static long rotasByHand(int k) {
+    static long rotasByHand(int k) {
         long sum = 0;
         long chosen = 1;
         for (int out = 0; out < k; out++) {
