@@ -516,11 +516,7 @@ public final class SharedWindow {
         }
 
         private void expect(int wanted) {
-            passOne(sign == wanted);
-        }
-
-        private void passOne(boolean canStand) {
-            if (canStand) {
+            if (sign == wanted) {
                 step();
             } else {
                 failHere(FAULT_SIGN);
@@ -1325,9 +1321,13 @@ public final class SharedWindow {
             } else if (cursor.fine()) {
                 readSum(into, open);
                 int kind = comparisonOf(cursor.sign);
-                cursor.passOne(kind != NONE);
-                readSum(into, open);
-                into.addStep(kind, 0);
+                if (kind == NONE) {
+                    cursor.failHere(FAULT_SIGN);
+                } else {
+                    cursor.step();
+                    readSum(into, open);
+                    into.addStep(kind, 0);
+                }
             }
         }
 

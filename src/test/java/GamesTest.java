@@ -12,6 +12,7 @@ public final class GamesTest {
         panes();
         keepIt();
         lengths();
+        fullTape();
         Due.end("GamesTest");
     }
 
@@ -74,6 +75,7 @@ public final class GamesTest {
         swaps(2, 1, 1, 1, 2, 2, 1);
         swaps(2, 0, 0, 1, 1, 2, 1);
         swaps(2, 0, 0, 2, 1, 2, 1);
+        swaps(2, 0, 0, 1, 2, 1, 1);
         swaps(3, 3, 1, 0, 1, 1, 1, 0, 1, 1, 1, 0);
         swaps(4, 6, 2, 0, 1, 1, 1, 1, 0, 1, 1, 1, 1, 0, 1, 1, 1, 1, 0);
         // A row of four: the two in the middle would stand in the way of two twos at once.
@@ -197,6 +199,27 @@ public final class GamesTest {
         keepIt(-1, 19, 1, 2, 3, 4, 5, 6, 7, 8, 9, 10, 11, 12, 13, 14, 15, 16, 17, 18, 19, 20);
         keepIt(0, 255, 255, 0);
         keepIt(1, 0, 255, 0);
+    }
+
+    /** With bytes enough for more than the document allows. */
+    private static void fullTape() {
+        SharedWindow window = Due.street("a0;A0@0-11", "");
+        Due.put(window, new int[260]);
+        Due.is("shortest(7, 0)", window.shortest(7, 0), -1);
+        Due.is("crack(13, 0)", window.crack(13, 0), -1);
+        Due.is("halves(13)", window.halves(13), -1);
+        Due.is("swaps(9, 0)", window.swaps(9, 0), -1);
+        Due.is("sale(9, 100)", window.sale(9, 100), -1);
+        Due.is("sale(8, 8)", window.sale(8, 8), -1);
+        Due.is("panes(7, 6)", window.panes(7, 6), -1);
+        Due.is("keepIt(21, 0)", window.keepIt(21, 0), -1);
+        Due.is("check(17)", window.check(17), -2);
+        Due.is("law(241)", window.law(241), -1);
+        Due.is("terrace(201)", window.terrace(201), -1);
+        Due.is("rota(61)", window.rota(61), -1);
+        Due.is("count(7)", window.count(7), 260);
+        Due.is("sale(8, 100)", window.sale(8, 100), 0);
+        Due.is("count(7)", window.count(7), 0);
     }
 
     private static void lengths() {

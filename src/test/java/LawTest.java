@@ -8,6 +8,7 @@ public final class LawTest {
         lettersWhenCarried();
         lettersOfJoy();
         leaving();
+        replacing();
         Due.end("LawTest");
     }
 
@@ -165,6 +166,17 @@ public final class LawTest {
         joy("d0;i0", "di", "k", 7 + 14);
         joy("d0;i0", "didi", "w", 2 + 7 + 6 + 5);
         joy("d0;i0", "di", "t+1", 2);
+    }
+
+    private static void replacing() {
+        SharedWindow window = Due.street("a0;b0", "ab");
+        for (int i = 1; i <= 6; i++) {
+            Due.is("law " + i, Due.law(window, "c" + i + "(1=1);j" + i + "(1=1)"), 2);
+            Due.is("a fault", Due.law(window, "c9(1=1);j9(1=1);c9(1=1"), Due.fault(1, 22));
+            Due.is("count(6)", window.count(6), 2);
+            Due.is("tried(1, 0)", window.tried(1, 0), 2 * i);
+            Due.is("tried(1, 3)", window.tried(1, 3), 2 * i);
+        }
     }
 
     private static void leaving() {

@@ -37,6 +37,9 @@ public final class RotaTest {
         Due.is("rotaIs(102)", window.rotaIs(102), 1 + 4 + 32768);
         window.turn(2, 1);
         Due.is("rotaIs(102)", window.rotaIs(102), 1 + 4 + 8 + 32768);
+        window.turn(0, -1);
+        Due.is("rotaIs(102)", window.rotaIs(102), 4 + 8 + 32768);
+        window.turn(0, 0);
         Due.is("rotaIs(0)", window.rotaIs(0), 0);
         Due.is("rotaIs(1)", window.rotaIs(1), 1);
         Due.is("rotaIs(3)", window.rotaIs(3), -2);

@@ -79,6 +79,9 @@ public final class ShortestTest {
         second("a0;A0@5-5", 1, 1);
         second("b0;c0;A0@5-5", 1, 2);
         second("a0;b1;c2;A0@5-5;B2@3-3", 1, 2);
+        second("b0;A5@0-0;B0@0-0", 1, 2);
+        // Three houses with lower bits would do too, but two are fewer.
+        second("a0;b4;c8;d6;A0@0-0;B5@0-0;C7@0-0", 2, 1 + 8);
         second("a11;b2;c0;d1;A10@0-0;B0@0-0;C1@0-0;D2@0-0", 2, 1 + 2);
         second("a0;b3;c6;d9;A0@0-0;B3@0-0;C6@0-0;D9@0-0", 4, 15);
         // a and p, or b and c: two either way, b and c are the least.

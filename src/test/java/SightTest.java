@@ -110,6 +110,12 @@ public final class SightTest {
         window = Due.street("a0;b1;A0@3-4;B1@8-9", "");
         Due.is("the lowest", window.clearest(0), 3);
         Due.is("clearest(1)", window.clearest(1), 2);
+        window = Due.street("a0;A0@5-7", "");
+        Due.is("one two", window.clearest(0), 5);
+        Due.is("one two", window.clearest(1), 1);
+        window = Due.street("a0;b0;A0@0-7;B0@0-0", "");
+        Due.is("the first turn", window.clearest(0), 0);
+        Due.is("the first turn", window.clearest(1), 4);
         window = Due.street("a0;A5@3-4", "");
         Due.is("none sees any", window.clearest(0), 0);
         Due.is("none sees any", window.clearest(1), 0);
