@@ -5,6 +5,7 @@ public final class DayBoundsTest {
 
     public static void main(String[] args) {
         numbersOfDays();
+        carrying();
         cracks();
         joys();
         joyOfAll();
@@ -32,6 +33,48 @@ public final class DayBoundsTest {
         Due.is("no houses", empty.days(100), 0);
         Due.is("count(0)", empty.count(0), 100);
         Due.is("count(8)", empty.count(8), 1);
+    }
+
+    private static void carrying() {
+        Due.says("by x THE WINDOW stays where it is; else, is it elsewhere (or nobody's), CRACKS are c more and it is that HOUSE's");
+        SharedWindow window = Due.street("a0;b0;p0", "abbp", "c1+s(1=1);x(h=1)");
+        Due.is("to a from nowhere, not to b, to p", window.days(1), 1 + 4);
+        Due.is("it is p's", window.count(3), 15);
+        window = Due.street("a0;p0", "9aaap", "c1+s%9(1=1)");
+        Due.is("once to a, once to p", window.days(1), 1 + 3);
+        Due.is("each day anew", window.days(1), 1 + 3);
+        law(window, "9pppp", "c9(1=1)");
+        Due.is("it is there", window.days(100), 0);
+        // Carried in the last TURN, it is there in the first one of the next DAY.
+        law(window, "p9--a", "c1(1=1)");
+        Due.is("from p to a", window.days(1), 1);
+        law(window, "a9--p", "c1(1=1)");
+        Due.is("from a to p", window.days(1), 1);
+        Due.is("and back", window.days(1), 2);
+
+        Due.says("from then on it BRINGS what that HOUSE SAW in this TURN");
+        window = Due.street("a0;p6;A0@0-0;B6@11-11;C0@1-1", "a9--p");
+        window.days(1);
+        Due.is("what p saw last", window.count(4), 2);
+        Due.is("joy of a", window.houseIs(0, 1), 1);
+        Due.is("joy of p", window.houseIs(15, 1), 1 + 1);
+        window.days(1);
+        Due.is("a has it from p over night", window.houseIs(0, 1), 1 + 1 + 1);
+        Due.rota(window, "-a");
+        window.days(1);
+        Due.is("in this TURN, not in another one", window.count(4), 4);
+
+        Due.says("TRIED are n DAYS by the DRAWS that will come (nothing is changed)");
+        String before = Due.all(window);
+        Due.same("tried", Due.all(window), before);
+        Due.law(window, "cw(1=1);x(w>6)");
+        Due.rota(window, "6(ap)");
+        int first = window.tried(1, 0);
+        int both = window.tried(2, 0);
+        int end = window.tried(2, 1);
+        Due.is("the first day", window.days(1), first);
+        Due.is("the second day", window.tried(1, 0), both - first);
+        Due.is("where it is then", window.tried(1, 1), end);
     }
 
     private static void law(SharedWindow window, String rota, String law) {

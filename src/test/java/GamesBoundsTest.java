@@ -141,6 +141,12 @@ public final class GamesBoundsTest {
     }
 
     private static void crackRefused() {
+        Due.says("whose by THE ROTA (bits of HOUSES)");
+        SharedWindow all = Due.street(Due.wholeTerrace(0), "abcdefghijkp");
+        Due.put(all, 11, 1);
+        Due.is("twelve houses", all.crack(1, 1), 2047 + 32768);
+        Due.put(all, 11, 0);
+        Due.is("none came, nobody's", all.crack(1, 1), 0);
         Due.says("-3: no TURN, another byte than 0, 1");
         crack(-3, -3, 12, 0);
         crack(-3, -3, 255, 1);

@@ -13,6 +13,7 @@ public final class KeptBoundsTest {
         check();
         checkRefused();
         count();
+        lastCall();
         Due.end("KeptBoundsTest");
     }
 
@@ -189,6 +190,24 @@ public final class KeptBoundsTest {
         for (int n = 1; n <= 16; n++) {
             Due.is("an empty tape, check(" + n + ")", new SharedWindow().check(n), -2);
         }
+    }
+
+    private static void lastCall() {
+        Due.says("An object is used for at most 512 calls after it has been made");
+        SharedWindow window = new SharedWindow();
+        int calls = 0;
+        Due.terrace(window, "a0;b0;A0@0-11");
+        Due.rota(window, "6(ab)");
+        Due.law(window, "c1(1=1);j1(1=1)");
+        calls += 6;
+        while (calls < 508) {
+            Due.is("one day more", window.days(1), 12);
+            calls++;
+        }
+        Due.is("the 509th", window.count(5), 502 * 12);
+        Due.is("the 510th", window.keep(), 502);
+        Due.yes("the 511th", window.undo());
+        Due.is("the 512th", window.houseIs(1, 1), 502 * 6);
     }
 
     private static void count() {

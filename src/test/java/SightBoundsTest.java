@@ -204,6 +204,9 @@ public final class SightBoundsTest {
     }
 
     private static void seers() {
+        Due.says("SEERS of a THING: told HOUSES that SEE it in any TURN (bits)");
+        Due.is("in the first turn", Due.street("a0;p0;A0@0-0", "").seers(0), 32769);
+        Due.is("in the last turn", Due.street("a0;p0;A0@11-11", "p").seers(0), 32769);
         Due.says("SEERS of a told THING: bits; NONE: no such one");
         SharedWindow window = whole(11);
         for (int thing = 0; thing < 16; thing++) {
