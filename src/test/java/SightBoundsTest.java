@@ -300,6 +300,8 @@ public final class SightBoundsTest {
         second("a0;b1;c3;d5;A11@0-0;B1@0-0;C2@0-0;D4@0-0", 2, 1 + 4);
         // The lowest house is not among them.
         second("a1;b0;c2;d2;e3;A11@0-0;B3@0-0;C1@0-0", 2, 2 + 4);
+        // With g it is c or e that is missing: c is the least, though e sees more.
+        second("c5;e6;g8;i7;m4;o9;A2@0-0;B5@0-0;C9@0-0;D7@0-0", 2, 4 + 64);
         // Four that see three ways each, six that see one THING each.
         second("a1;b4;c7;d10;A0@0-0;B1@0-0;C2@0-0;D3@0-0;E4@0-0;F5@0-0;G6@0-0;H7@0-0;I8@0-0;J9@0-0;K10@0-0;L11@0-0", 4, 15);
         second("a0;b2;c4;d6;e8;f10;A0@0-0;B2@0-0;C4@0-0;D6@0-0;E8@0-0;F10@0-0", 6, 63);
@@ -314,6 +316,10 @@ public final class SightBoundsTest {
         Due.is("four of four", window.second(1), 4 + 8 + 16 + 32);
         Due.terrace(window, "b1;d5;f4;A0@0-0;B1@0-0;C4@0-0");
         Due.is("two of three", window.second(1), 2 + 8);
+        Due.terrace(window, "b8;n6;A1@0-0;B4@0-0");
+        Due.is("none of two", window.second(1), 0);
+        Due.terrace(window, "c5;e6;g8;i7;m4;o9;A2@0-0;B5@0-0;C9@0-0;D7@0-0");
+        Due.is("two of six", window.second(1), 4 + 64);
         Due.says("SECOND WINDOWS, what 0 how many, 1 which; NONE: no such what");
         for (int odd : NO_HALF) {
             Due.is("second(" + odd + ")", whole(0).second(odd), -1);
